@@ -248,6 +248,23 @@ public final class PromiseTest {
         due("run(1)", x.run(1), 1);
         due("of(0, 12)", x.of(0, 12), 1);
         due("of(1, 12)", x.of(1, 12), 0);
+        // What is too old goes, what came behind it stays: noted at 0, 2, 4 and 5.
+        x = broom(903, SUM, FRAIL, DELAY);
+        int[] delays = {1, 1, 8};
+        tellAll(x, 1, -1);
+        due("run(1)", x.run(1), 1);
+        for (int n : delays) {
+            tellAll(x, 2, n);
+            due("run(2)", x.run(2), 2);
+            tellAll(x, 1, -1);
+            due("run(2)", x.run(2), 2);
+        }
+        due("count(6)", x.count(6), 5);
+        due("of(0, 12)", x.of(0, 12), 3);
+        tellAll(x, 2, 8);
+        due("run(2)", x.run(2), 2);
+        due("count(6)", x.count(6), 6);
+        due("of(0, 12)", x.of(0, 12), 2);
     }
 
     private static void counted() {
@@ -572,6 +589,11 @@ public final class PromiseTest {
 
     private static void switches() {
         ActorTrees x = broom(SOME, SUM, SWITCH);
+        tellAll(x, 1, 4, -50);
+        due("run(1)", x.run(1), 1);
+        due("of(1, 7)", x.of(1, 7), 2);
+        due("run(1)", x.run(1), 1);
+        due("of(1, 7)", x.of(1, 7), 1);
         tellAll(x, 1, -1, -99, 0, 5);
         due("run(3)", x.run(3), 3);
         due("of(1, 7)", x.of(1, 7), 2);
@@ -668,7 +690,13 @@ public final class PromiseTest {
         // 1: itself; 99 modulo 4 is 3; 98 modulo 4 is 2; 0 is 0; 5 modulo 4: itself; 6 modulo 4 is 2, which it is already.
         due("run(1)", x.run(1), 1);
         due("count(2)", x.count(2), 5);
-        due("run(5)", x.run(5), 5);
+        due("run(2)", x.run(2), 2);
+        due("watcher(3, 0)", x.watcher(3, 0), 1);
+        due("watcher(2, 0)", x.watcher(2, 0), 1);
+        due("watcher(0, 0)", x.watcher(0, 0), NOT);
+        due("run(1)", x.run(1), 1);
+        due("watcher(0, 0)", x.watcher(0, 0), 1);
+        due("run(2)", x.run(2), 2);
         due("of(0, 10)", x.of(0, 10), 1);
         due("of(1, 10)", x.of(1, 10), 0);
         due("of(2, 10)", x.of(2, 10), 1);
@@ -785,6 +813,12 @@ public final class PromiseTest {
         due("of(4, 5)", x.of(4, 5), 0);
         mailboxIs(x, 2, 304, 303);
         mailboxIs(x, 1, 105);
+        // The last of 12 is a CHILD like any other.
+        ActorTrees y = broom(905, SUM, SUM);
+        for (int a = 2; a < 12; a++) {
+            due("actor(1)", y.actor(1, SUM, SOME), a);
+        }
+        due("brings(1, 1)", y.brings(1, 1), 4095 - 3);
         due("sender(2, 0, false)", x.sender(2, 0, false), -1);
     }
 
@@ -794,9 +828,13 @@ public final class PromiseTest {
         tellAll(x, 1, 1, 3, 5, 7, 9, 11);
         due("run(6)", x.run(6), 6);
         tellAll(x, 2, -1);
-        tellAll(x, 1, 20, 22, 24, 26, 28, 30, 32, 34, 36);
+        due("tell(1, 2, 20)", x.tell(1, 2, 20), 1);
+        tellAll(x, 1, 22, 24, 26, 28, 30, 32, 34, 36);
         due("run(1)", x.run(1), 1);
         mailboxIs(x, 1, 101, 103, 105, 120, 122, 124, 126, 128, 130, 132, 134, 136);
+        due("sender(1, 0, false)", x.sender(1, 0, false), -1);
+        due("sender(1, 3, false)", x.sender(1, 3, false), 2);
+        due("sender(1, 4, false)", x.sender(1, 4, false), -1);
         due("of(1, 9)", x.of(1, 9), 0);
         due("count(4)", x.count(4), 3);
     }
@@ -825,6 +863,16 @@ public final class PromiseTest {
         due("of(4, 5)", x.of(4, 5), 1);
         due("of(0, 12)", x.of(0, 12), 1);
         due("of(1, 12)", x.of(1, 12), 0);
+        // A BUDGET of 9: nine are borne, the tenth is not.
+        ActorTrees y = broom(901, SUM, FRAIL);
+        for (int k = 1; k <= 10; k++) {
+            due("count(1)", y.count(1), 2);
+            due("of(0, 12)", y.of(0, 12), k - 1);
+            tellAll(y, 1, -1);
+            due("run(1)", y.run(1), 1);
+        }
+        due("count(1)", y.count(1), 0);
+        due("of(0, 12)", y.of(0, 12), 0);
         // A second one below the root is too much for it.
         due("brings(4, 0)", x.brings(4, 0), 0);
         due("brings(4, 1)", x.brings(4, 1), 1 + 2 + 16);
@@ -1002,6 +1050,17 @@ public final class PromiseTest {
         due("tell(2, 1, 5)", x.tell(2, 1, 5), 1);
         due("dry(1, 3)", x.dry(1, 3), 2);
         due("count(4)", x.count(4), 1);
+        // One RESTARTED in thought does its OWN BEHAVIOUR on, in its PARENT's WINDOW.
+        x = broom(SOME, SUM, FRAIL);
+        tellAll(x, 1, 5, 3, 7, 6);
+        due("dry(3, 11)", x.dry(3, 11), 7);
+        due("dry(4, 11)", x.dry(4, 11), 0);
+        x = broom(103, SUM, FRAIL, DELAY);
+        tellAll(x, 1, -1);
+        tellAll(x, 2, 2);
+        due("run(3)", x.run(3), 3);
+        due("brings(1, 1)", x.brings(1, 1), 7);
+        due("would(1, -1, 1)", x.would(1, -1, 1), 0);
     }
 
     private static void first() {
@@ -1027,6 +1086,11 @@ public final class PromiseTest {
         due("count(7)", x.count(7), 0);
         due("run(1)", x.run(1), 1);
         due("count(7)", x.count(7), 1);
+        // A failure in another thought is none of this one.
+        x = broom(SOME, SUM, FRAIL);
+        tellAll(x, 0, 1, 2);
+        due("brings(1, 2)", x.brings(1, 2), 1);
+        due("first()", x.first(), NOT);
         // The failure that is passed on and brings THE ROOT down is one, too.
         x = broom(5, SUM, FRAIL);
         tellAll(x, 1, -1);
@@ -1278,7 +1342,11 @@ public final class PromiseTest {
         // 5758 modulo 3 is 1, 5758 / 12 is 479, modulo 199 is 81, less 99 is -18.
         due("message(1, 0, false)", x.message(1, 0, false), 82);
         due("seed(1)", x.seed(1), z2);
-        due("drawn(40)", x.drawn(40), 40 - x.count(2) + 2);
+        // From the SEED 3: x is 17747, odd; modulo 3 it is 2; 1478 modulo 199 is 85, less 99 is -14.
+        due("seed(3)", x.seed(3), 1);
+        due("drawn(1)", x.drawn(1), 0);
+        due("the third x", 3 * 1103515245 + 12345 >>> 16 & 32767, 17747);
+        due("message(2, 1, false)", x.message(2, 1, false), 86);
         x = broom(SOME, SUM);
         due("drawn(40)", x.drawn(40), 28);
         due("count(2)", x.count(2), 12);
@@ -1423,6 +1491,76 @@ public final class PromiseTest {
         due("back()", x.back(), 5);
         CHECK.due("promise 28: all that is seen", seen(x), before);
         due("seed(1)", x.seed(1), 99);
+        due("hold(0, 4)", x.hold(0, 4), 1);
+        x = broom(SOME, SUM);
+        due("image()", x.image(), 1);
+        due("actor", x.actor(0, SUM, SOME), 1);
+        for (int h = 0; h < 6; h++) {
+            due("hold", x.hold(h, 1), 1);
+        }
+        due("back()", x.back(), 1);
+        for (int h = 0; h < 6; h++) {
+            due("tells", x.tells(h, 0), VOID);
+        }
+        backOfTimers();
+        anewBehindBack();
+    }
+
+    private static void backOfTimers() {
+        ActorTrees x = broom(SOME, SUM, DELAY, DELAY);
+        tellAll(x, 1, 5);
+        tellAll(x, 2, 3);
+        due("run(2)", x.run(2), 2);
+        due("image()", x.image(), 3);
+        due("run(200)", x.run(200) > 9 ? 1 : 0, 1);
+        due("count(6)", x.count(6) > 9 ? 1 : 0, 1);
+        tellAll(x, 1, 1, 1, 1);
+        due("run(3)", x.run(3), 3);
+        due("back()", x.back(), 3);
+        int[][] wanted = {{2, 4, 102}, {1, 6, 104}};
+        for (int i = 0; i < 2; i++) {
+            for (int what = 0; what < 3; what++) {
+                due("timer(" + i + ", " + what + ")", x.timer(i, what), wanted[i][what]);
+            }
+        }
+        due("count(3)", x.count(3), 2);
+        due("count(6)", x.count(6), 0);
+        due("dry(1, 5)", x.dry(1, 5), 4);
+        due("run(1)", x.run(1), 1);
+        due("dry(1, 5)", x.dry(1, 5), 4);
+        due("dry(1, 4)", x.dry(1, 4), 3);
+    }
+
+    /** One that comes again behind back() is as if none had been there. */
+    private static void anewBehindBack() {
+        ActorTrees x = broom(SOME, SUM, SUM);
+        due("image()", x.image(), 2);
+        due("actor", x.actor(0, SWITCH, SOME), 2);
+        due("actor", x.actor(0, WATCH, SOME), 3);
+        tellAll(x, 3, 2);
+        tellAll(x, 2, 4, 0, 3, 1, 5, 7);
+        due("run(2)", x.run(2), 2);
+        due("run(1)", x.run(1), 1);
+        tellAll(x, 2, 9);
+        due("back()", x.back(), 2);
+        due("actor", x.actor(0, FRAIL, SOME), 2);
+        int[] wanted = {0, FRAIL, 0, 9, 9, 1, FRAIL, 1, 0, 0, 0, 0, 0, 0};
+        for (int what = 0; what <= 13; what++) {
+            due("of(2, " + what + ")", x.of(2, what), wanted[what]);
+        }
+        due("counted(2)", x.counted(2), 0);
+        tellAll(x, 2, 9);
+        due("actor", x.actor(2, HOLD, SOME), 3);
+        tellAll(x, 3, 1);
+        due("run(2)", x.run(2), 2);
+        due("counted(2)", x.counted(2), 9);
+        due("of(3, 9)", x.of(3, 9), 1);
+        due("of(0, 12)", x.of(0, 12), 0);
+        due("back()", x.back(), 2);
+        due("actor", x.actor(0, SUM, SOME), 2);
+        due("actor", x.actor(0, SUM, SOME), 3);
+        due("counted(2)", x.counted(2), 0);
+        due("of(3, 9)", x.of(3, 9), 0);
     }
 
     /** One number of all that can be asked of the ACTORS, THE LOG, CAUSES. */
@@ -1497,8 +1635,10 @@ public final class PromiseTest {
         due("put(5, 60, 4)", x.put(5, 60, 4), VOID);
         due("row(5, 61)", x.row(5, 61), BAD);
         due("put(5, 59, 5)", x.put(5, 59, 5), 4);
+        due("put(5, 0, 6)", x.put(5, 0, 6), 0);
         due("row(5, 60)", x.row(5, 60), 1);
         due("put(5, 59, 5)", x.put(5, 59, 5), 0);
+        due("put(5, 0, 5)", x.put(5, 0, 5), 0);
     }
 
     private static void put() {
