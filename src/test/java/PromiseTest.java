@@ -939,6 +939,10 @@ public final class PromiseTest {
         due("ended()", x.ended(), 0);
         due("script", text(x, "s 2"), 1);
         due("ended()", x.ended(), 1);
+        // LINES that are no RUN make no STEP and end none.
+        due("script", text(x, "m 0 1;a 0 0 0 0 1"), 2);
+        due("ended()", x.ended(), 1);
+        due("count(5)", x.count(5), 2);
     }
 
     private static void log() {
