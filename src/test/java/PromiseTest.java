@@ -1,99 +1,45 @@
 /** Each promise of the document by answers reckoned by hand: ordinary calls, edges, wrong calls. */
-public final class PromiseTest {
-    private static final int BAD = -1, NOT = -2, FULL = -3, STATE = -5, VOID = -2000000000;
-    private static final int LOW = Integer.MIN_VALUE, HIGH = Integer.MAX_VALUE;
-    private static final int SUM = 0, PASS = 1, ECHO = 2, HOLD = 3, SWITCH = 4;
-    private static final int FRAIL = 5, DELAY = 6, FAN = 7, WATCH = 8, QUIT = 9;
-    private static final int SOME = 909; // a sbw: ONE, a BUDGET of 9, a WINDOW of 9
-
-    private static final Check CHECK = new Check("PromiseTest");
-    private static int promise;
-
+public final class PromiseTest extends Calls {
     private PromiseTest() {
     }
 
-    private static void due(String call, int got, int want) {
-        CHECK.due("promise " + promise + ": " + call, got, want);
-    }
-
     public static void main(String[] args) {
-        promise = 1; aNewObject();
-        promise = 2; actor();
-        promise = 3; tell();
-        promise = 4; of(); notedFailures();
-        promise = 5; counted();
-        promise = 6; message();
-        promise = 7; sender();
-        promise = 8; stack();
-        promise = 9; watcher();
-        promise = 10; timer();
-        promise = 11; stop(); stopTells();
-        promise = 12; run(); turns(); sum(); pass(); echo(); hold(); holdFull(); switches(); frail(); delay(); fan(); watch(); quit();
-        promise = 12; restartOne(); restartAll(); restartRest(); restartDetails(); restartStashes(); budgets(); windows(); rootFails();
-        promise = 13; ended();
-        promise = 14; log();
-        promise = 15; cause();
-        promise = 16; dry();
-        promise = 17; first();
-        promise = 18; quiet();
-        promise = 19; would();
-        promise = 20; brings();
-        promise = 21; reach();
-        promise = 22; feed();
-        promise = 23; script(); faultsOfForm(); linesThatCannotBe();
-        promise = 24; drawn();
-        promise = 25; seed();
-        promise = 26; order(); orderSteps();
-        promise = 27; image();
-        promise = 28; back();
-        promise = 29; hold29();
-        promise = 30; row();
-        promise = 31; put();
-        promise = 32; tells();
-        promise = 33; count();
-        CHECK.end();
-    }
-
-    // ---- helpers
-
-    /** A chain of actors: the root does the first, its child the second, and so on. */
-    private static ActorTrees chain(int sbw, int... owns) {
-        ActorTrees x = new ActorTrees();
-        for (int i = 0; i < owns.length; i++) {
-            due("actor of a chain", x.actor(i - 1, owns[i], sbw), i);
-        }
-        return x;
-    }
-
-    /** A root that does the first, and children of it that do the others. */
-    private static ActorTrees broom(int sbw, int... owns) {
-        ActorTrees x = new ActorTrees();
-        for (int i = 0; i < owns.length; i++) {
-            due("actor of a broom", x.actor(i == 0 ? -1 : 0, owns[i], sbw), i);
-        }
-        return x;
-    }
-
-    private static void tellAll(ActorTrees x, int actor, int... numbers) {
-        for (int n : numbers) {
-            int had = x.of(actor, 8);
-            due("tell(" + actor + ", -1, " + n + ")", x.tell(actor, -1, n), had + 1);
-        }
-    }
-
-    private static int text(ActorTrees x, String text) {
-        for (int i = 0; i < text.length(); i++) {
-            due("feed", x.feed(text.charAt(i)), i + 1);
-        }
-        return x.script();
-    }
-
-    private static void mailboxIs(ActorTrees x, int actor, int... messages) {
-        due("of(" + actor + ", 8)", x.of(actor, 8), messages.length);
-        for (int i = 0; i < messages.length; i++) {
-            due("message(" + actor + ", " + i + ", false)", x.message(actor, i, false), messages[i]);
-        }
-        due("message(" + actor + ", " + messages.length + ", false)", x.message(actor, messages.length, false), NOT);
+        check = new Check("PromiseTest");
+        where = "promise 1"; aNewObject();
+        where = "promise 2"; actor();
+        where = "promise 3"; tell();
+        where = "promise 4"; of(); notedFailures();
+        where = "promise 5"; counted();
+        where = "promise 6"; message();
+        where = "promise 7"; sender();
+        where = "promise 8"; stack();
+        where = "promise 9"; watcher();
+        where = "promise 10"; timer();
+        where = "promise 11"; stop(); stopTells();
+        where = "promise 12"; run(); turns(); sum(); pass(); echo(); hold(); holdFull(); switches(); frail(); delay(); fan(); watch(); quit();
+        where = "promise 12"; restartOne(); restartAll(); restartRest(); restartDetails(); restartStashes(); budgets(); windows(); rootFails();
+        where = "promise 13"; ended();
+        where = "promise 14"; log();
+        where = "promise 15"; cause();
+        where = "promise 16"; dry();
+        where = "promise 17"; first();
+        where = "promise 18"; quiet();
+        where = "promise 19"; would();
+        where = "promise 20"; brings();
+        where = "promise 21"; reach();
+        where = "promise 22"; feed();
+        where = "promise 23"; script(); faultsOfForm(); linesThatCannotBe();
+        where = "promise 24"; drawn();
+        where = "promise 25"; seed();
+        where = "promise 26"; order(); orderSteps();
+        where = "promise 27"; image();
+        where = "promise 28"; back();
+        where = "promise 29"; hold29();
+        where = "promise 30"; row();
+        where = "promise 31"; put();
+        where = "promise 32"; tells();
+        where = "promise 33"; count();
+        check.end();
     }
 
     // ---- actors, messages
@@ -1300,21 +1246,22 @@ public final class PromiseTest {
     }
 
     private static void linesThatCannotBe() {
-        ActorTrees x = broom(SOME, SUM, SUM);
-        due("stop(1)", x.stop(1), 1);
         String[] lines = {"a 2 0 0 0 1", "a 1 0 0 0 1", "a 99 0 0 0 1", "a 0 10 0 0 1", "a 0 0 3 0 1", "a 0 0 0 10 1", "a 0 0 0 0 0",
             "a 0 0 0 0 51", "m 2 1", "m 99 1", "s 0", "s 00", "s -1"};
         for (String line : lines) {
-            due("script of " + line, text(x, line), -2000);
-            due("script of " + line, text(x, "m 0 7;s 1;" + line + ";m 1 1"), -2002);
-            due("count(9)", x.count(9), 0);
+            ActorTrees y = broom(SOME, SUM, SUM);
+            due("stop(1)", y.stop(1), 1);
+            due("script of " + line, text(y, line), -2000);
+            due("script of " + line, text(y, "m 0 7;s 1;" + line + ";m 1 1"), -2002);
+            due("count(9)", y.count(9), 0);
+            due("count(0)", y.count(0), 2);
+            due("count(2)", y.count(2), 0);
+            due("count(5)", y.count(5), 0);
+            due("count(8)", y.count(8), 0);
+            due("counted(0)", y.counted(0), 0);
+            due("ended()", y.ended(), 0);
         }
-        due("count(0)", x.count(0), 2);
-        due("count(2)", x.count(2), 0);
-        due("count(5)", x.count(5), 0);
-        due("count(8)", x.count(8), 0);
-        due("counted(0)", x.counted(0), 0);
-        due("ended()", x.ended(), 0);
+        ActorTrees x = broom(SOME, SUM, SUM);
         for (int k = 0; k < 10; k++) {
             due("actor(0)", x.actor(0, SUM, 105), k + 2);
         }
@@ -1475,7 +1422,7 @@ public final class PromiseTest {
         due("seed(99)", x.seed(99), 1);
         due("hold(0, 4)", x.hold(0, 4), 1);
         due("row(2, 3)", x.row(2, 3), 1);
-        long before = seen(x);
+        String before = seen(x);
         due("image()", x.image(), 5);
         due("actor", x.actor(4, SUM, 909), 5);
         due("hold(1, 5)", x.hold(1, 5), 1);
@@ -1488,12 +1435,12 @@ public final class PromiseTest {
         due("tells(1, 0)", x.tells(1, 0), VOID);
         due("tells(0, 0)", x.tells(0, 0), 3);
         due("put(2, 1, 0)", x.put(2, 1, 0), 8);
-        due("count(9)", x.count(9), 1);
-        CHECK.due("promise 28: all that is seen", seen(x), before);
+        due("script()", x.script(), -1001);
+        due("all that is seen", seen(x).equals(before) ? 1 : 0, 1);
         due("seed(1)", x.seed(1), 99);
         due("run(3)", x.run(3), 3);
         due("back()", x.back(), 5);
-        CHECK.due("promise 28: all that is seen", seen(x), before);
+        due("count(5)", x.count(5), 9);
         due("seed(1)", x.seed(1), 99);
         due("hold(0, 4)", x.hold(0, 4), 1);
         x = broom(SOME, SUM);
@@ -1565,37 +1512,6 @@ public final class PromiseTest {
         due("actor", x.actor(0, SUM, SOME), 3);
         due("counted(2)", x.counted(2), 0);
         due("of(3, 9)", x.of(3, 9), 0);
-    }
-
-    /** One number of all that can be asked of the ACTORS, THE LOG, CAUSES. */
-    private static long seen(ActorTrees x) {
-        long all = x.ended();
-        for (int what = 0; what <= 8; what++) {
-            all = all * 1000003 + x.count(what);
-        }
-        for (int a = 0; a < 12; a++) {
-            for (int what = 0; what <= 13; what++) {
-                all = all * 1000003 + x.of(a, what);
-            }
-            all = all * 1000003 + x.counted(a);
-            for (int i = 0; i < 12; i++) {
-                all = all * 1000003 + x.message(a, i, false);
-                all = all * 1000003 + x.message(a, i, true);
-                all = all * 1000003 + x.sender(a, i, false);
-                all = all * 1000003 + x.sender(a, i, true);
-                all = all * 1000003 + x.stack(a, i);
-                all = all * 1000003 + x.watcher(a, i);
-            }
-        }
-        for (int i = 0; i < 30; i++) {
-            all = all * 1000003 + x.log(i);
-            all = all * 1000003 + x.cause(i, 0);
-            all = all * 1000003 + x.cause(i, 1);
-            all = all * 1000003 + x.timer(i, 0);
-            all = all * 1000003 + x.timer(i, 1);
-            all = all * 1000003 + x.timer(i, 2);
-        }
-        return all * 1000003 + x.quiet();
     }
 
     private static void hold29() {
